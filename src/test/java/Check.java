@@ -1,0 +1,28 @@
+/** Counts and prints the answers that are not the ones due. */
+final class Check {
+    private int right;
+    private int wrong;
+
+    void due(String what, long got, long want) {
+        if (got == want) {
+            right++;
+        } else {
+            wrong++;
+            System.out.println(what + " answered " + got + ", due is " + want);
+        }
+    }
+
+    void holds(String what, boolean held) {
+        if (held) {
+            right++;
+        } else {
+            wrong++;
+            System.out.println("does not hold: " + what);
+        }
+    }
+
+    void end() {
+        System.out.println(right + " answers as due, " + wrong + " not");
+        System.exit(wrong == 0 && right > 0 ? 0 : 1);
+    }
+}
