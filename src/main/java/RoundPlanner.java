@@ -16,8 +16,8 @@ public final class RoundPlanner {
     private static final int LAST_START = 500;
     private static final int LAST_TIME = 1000;
 
-    // A best journey never needs to leave a trip twice at the same stop, nor to ride
-    // back to where it began, so with eight stops seven rides are always enough.
+    // The document's bound for earliestWith, and enough for every journey: a best one needs
+    // to leave a trip at no stop twice, nor where it began, so it has at most seven rides.
     private static final int MOST_RIDES = 12;
 
     // Above every time that a journey can arrive at, and far from overflow.

@@ -16,6 +16,7 @@ public final class TimetableTest {
         lineAnswers();
         lineRefuses();
         extendAnswers();
+        fullTimetable();
         extendRefuses();
         extendOrder();
         refusedExtendChangesNothing();
@@ -102,6 +103,24 @@ public final class TimetableTest {
             check.due("3: to " + stops[i], x.earliest(7, stops[i], 100), times[i]);
         }
         check.due("3: the seventh is not on it", x.earliest(7, 4, 100), NEVER);
+    }
+
+    private static void fullTimetable() {
+        RoundPlanner x = new RoundPlanner();
+        for (int line = 0; line < 5; line++) {
+            x.line(line);
+            for (int i = 1; i < 6; i++) {
+                check.due("3: line " + line, x.extend(line, (line + i) % 8, line + i), i + 1);
+            }
+        }
+        for (int line = 0; line < 5; line++) {
+            check.due("3: full, line " + line, x.extend(line, (line + 6) % 8, 1), FULL);
+            check.due("4: line " + line, x.trip(line, 100 * line), line);
+        }
+        for (int line = 0; line < 5; line++) {
+            check.due("3: all of line " + line,
+                    x.earliestWith(line, (line + 5) % 8, 100 * line, 1), 105 * line + 15);
+        }
     }
 
     private static void extendRefuses() {
