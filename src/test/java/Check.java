@@ -1,3 +1,6 @@
+import java.util.function.Supplier;
+import java.util.function.ToIntFunction;
+
 /** Counts and prints the answers that are not the ones due. */
 final class Check {
     private int right;
@@ -19,6 +22,13 @@ final class Check {
             wrong++;
             System.out.println("does not hold: " + what);
         }
+    }
+
+    /** The call answers as due, and leaves its object as another is on which it was not made. */
+    void changesNothing(String what, Supplier<RoundPlanner> made, ToIntFunction<RoundPlanner> call, int want) {
+        RoundPlanner x = made.get();
+        due(what, call.applyAsInt(x), want);
+        holds(what + ": nothing changes then", Reading.of(x).equals(Reading.of(made.get())));
     }
 
     void end() {
