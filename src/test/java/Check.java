@@ -26,9 +26,13 @@ final class Check {
 
     /** The call answers as due, and leaves its object as another is on which it was not made. */
     void changesNothing(String what, Supplier<RoundPlanner> made, ToIntFunction<RoundPlanner> call, int want) {
-        RoundPlanner x = made.get();
-        due(what, call.applyAsInt(x), want);
-        holds(what + ": nothing changes then", Reading.of(x).equals(Reading.of(made.get())));
+        due(what, call.applyAsInt(made.get()), want);
+        Supplier<RoundPlanner> called = () -> {
+            RoundPlanner x = made.get();
+            call.applyAsInt(x);
+            return x;
+        };
+        holds(what + ": nothing changes then", Reading.of(called).equals(Reading.of(made)));
     }
 
     void end() {

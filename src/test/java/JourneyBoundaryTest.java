@@ -58,6 +58,7 @@ public final class JourneyBoundaryTest {
         leastRidesOfEqualArrivals();
         latestIs0();
         latestIs1000();
+        latestIsAnyTimeBetween();
         latestByTimeOrBefore();
         withinUntilNotIn0To1000();
         withinUntilOrBefore();
@@ -422,9 +423,16 @@ public final class JourneyBoundaryTest {
         check.due("10: where one is", x.latest(0, 0, 1000), 1000);
         check.due("10: where one is, before", x.latest(0, 0, 999), 999);
         check.due("10: no later than the footpath allows", x.latest(0, 1, 1000), 999);
-        // Every third time, as an object is used for 512 calls at most.
-        for (int t = 1; t <= 1000; t += 3) {
-            check.due("10: on foot by " + t, x.latest(0, 1, t), t - 1);
+    }
+
+    // In three parts, as an object is used for 512 calls at most.
+    private static void latestIsAnyTimeBetween() {
+        for (int part = 1; part <= 3; part++) {
+            RoundPlanner x = new RoundPlanner();
+            x.footpath(0, 1, 1);
+            for (int t = part; t <= 1000; t += 3) {
+                check.due("10: on foot by " + t, x.latest(0, 1, t), t - 1);
+            }
         }
     }
 

@@ -9,6 +9,7 @@ public final class JourneyTest {
         changes();
         footpathsAroundRides();
         walkingAfterAWorseArrival();
+        soonerOnFootOrByTrip();
         fewerRidesArriveLater();
         check.end();
     }
@@ -81,6 +82,19 @@ public final class JourneyTest {
         check.due("7: at 6 by the trip", x.earliest(0, 6, 0), 34);
         check.due("9: at 6 by the trip", x.rides(0, 6, 0), 1);
         check.due("10: at 6 by the trip", x.latest(0, 6, 1000), 40);
+    }
+
+    private static void soonerOnFootOrByTrip() {
+        RoundPlanner x = Timetables.oneLine();
+        x.footpath(0, 1, 11);
+        x.delay(1, 0);
+        check.due("7: by the trip", x.earliest(0, 1, 0), 10);
+        check.due("9: by the trip", x.rides(0, 1, 0), 1);
+        check.due("7: on foot, the trip is gone", x.earliest(0, 1, 1), 12);
+        check.due("9: on foot, the trip is gone", x.rides(0, 1, 1), 0);
+        x.footpath(0, 1, 9);
+        check.due("7: on foot", x.earliest(0, 1, 0), 9);
+        check.due("9: on foot", x.rides(0, 1, 0), 0);
     }
 
     private static void fewerRidesArriveLater() {
