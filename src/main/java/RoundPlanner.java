@@ -146,6 +146,7 @@ public final class RoundPlanner {
         if (fault != NO_FAULT) {
             return fault;
         }
+        // A number below 0 needs no test of its own: the search then makes no ride, as for 0.
         search(a, t, rides > MOST_RIDES ? MOST_RIDES : rides);
         return reached[b] == UNREACHED ? NEVER : reached[b];
     }
